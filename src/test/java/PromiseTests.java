@@ -17,7 +17,7 @@ public final class PromiseTests {
         promise = 7; poke();
         promise = 8; set();
         promise = 9; exchange();
-        promise = 10; runDoes(); runDivides(); runAddresses(); runJumps(); runEnds(); runKeepsState();
+        promise = 10; runDoes(); runDivides(); runAddresses(); runJumps(); runEnds(); runKeepsState(); runsBeginAfresh();
         promise = 11; peek();
         promise = 12; value();
         promise = 13; done();
@@ -482,6 +482,25 @@ public final class PromiseTests {
         x.run();
         due("value(1)", x.value(1), 20);
         due("peek(3)", x.peek(3), 20);
+    }
+
+    private static void runsBeginAfresh() {
+        // No READ, WRITE or loss of the run before is left.
+        ScoreDesk x = unfetched(DIV, 1, 7, 7, ADD, 2, 3, 1, GO, 0, 0, 3, LOAD, 3, 7, 0);
+        x.run();
+        due("lost(0)", x.lost(0), 2);
+        x.clear();
+        x.add(SET, 3, 9, 0);
+        x.run();
+        dueTimes(x, 0, "0 1 2 3 3 0");
+        dueLost(x, "0 0 0 0 0 0 0");
+        // Nor the places of THE STACK, which has become smaller.
+        x = with(GO, 0, 0, 2, HALT, 0, 0, 0, SET, 1, 1, 0, SET, 2, 2, 0);
+        x.fetch(4, 1);
+        x.run();
+        x.fetch(1, 1);
+        x.run();
+        due("lost(1)", x.lost(1), 2);
     }
 
     // ---- 11, 12, 13, 14
