@@ -6,7 +6,6 @@ import java.nio.file.Files;
 import java.nio.file.Path;
 import java.util.Set;
 import java.util.TreeSet;
-import java.util.regex.Matcher;
 import java.util.regex.Pattern;
 
 // The public face, and those rules of the language that can be seen in the class or in its text.
@@ -19,8 +18,10 @@ public final class FaceTests {
     public static void main(String[] args) throws Exception {
         face();
         hiddenMembers();
-        words(withoutComments(Files.readString(SOURCE)));
-        lengths(withoutComments(Files.readString(SOURCE)));
+        String text = withoutComments(Files.readString(SOURCE));
+        words(text);
+        arrays(text);
+        lengths(text);
         System.out.println(wrong == 0 ? "the face and the language are as due" : wrong + " faults");
         if (wrong != 0) {
             System.exit(1);
@@ -99,17 +100,37 @@ public final class FaceTests {
 
     private static void words(String text) {
         String never = "import package throw throws try catch synchronized assert instanceof null float double String "
-                + "Math Integer Long System Arrays Object interface enum record var this super static\\s*\\{ -> :: \\[\\]\\s*\\[\\]";
+                + "Math Integer Long System Arrays Object interface enum static\\s*\\{ :: \\[\\]\\s*\\[\\]";
         for (String word : never.split(" ")) {
             String whole = Character.isLetter(word.charAt(0)) && Character.isLetter(word.charAt(word.length() - 1))
                     ? "\\b" + word + "\\b" : word;
             holds(!Pattern.compile(whole).matcher(text).find(), "no " + word + " in the text");
         }
-        Matcher made = Pattern.compile("[^\n]*\\bnew\\b[^\n]*").matcher(text);
-        while (made.find()) {
-            holds(made.group().matches("    private final \\w+\\[\\] \\w+ = new \\w+\\[[A-Z_0-9]+\\];"),
-                    "an array is made in a field's initialiser: " + made.group().trim());
+    }
+
+    /** Every "new" makes an array of numbers with a constant length, in a field's initialiser or in the constructor. */
+    private static void arrays(String text) {
+        int constructor = text.indexOf("public ScoreDesk(");
+        int constructorEnd = constructor + 1;
+        for (int depth = 0; constructorEnd < text.length(); constructorEnd++) {
+            depth += change(text.charAt(constructorEnd));
+            if (depth == 0 && text.charAt(constructorEnd) == '}') {
+                break;
+            }
         }
+        int depth = 0;
+        for (int i = 0; i < text.length(); i++) {
+            depth += change(text.charAt(i));
+            if (text.startsWith("new ", i) && !Character.isJavaIdentifierPart(text.charAt(i - 1))) {
+                String made = text.substring(i, text.indexOf('\n', i));
+                holds(made.matches("new (int|long|short|byte|char|boolean)\\[[A-Z_0-9 *+-]+\\][,;].*"), "constant length: " + made);
+                holds(depth == 1 || i > constructor && i < constructorEnd, "not made in a method: " + made);
+            }
+        }
+    }
+
+    private static int change(char c) {
+        return c == '{' ? 1 : c == '}' ? -1 : 0;
     }
 
     private static void lengths(String text) {
