@@ -6,7 +6,7 @@ public final class BoundaryTests {
     private static final int SET = 0, ADD = 1, SUB = 2, LESS = 3, MUL = 4, DIV = 5;
     private static final int LOAD = 6, STORE = 7, ZERO = 8, GO = 9, HALT = 10;
     private static final int MIN = Integer.MIN_VALUE, MAX = Integer.MAX_VALUE;
-    private static final int OK = ScoreDesk.OK, LONG = ScoreDesk.LONG, BAD = ScoreDesk.BAD, FULL = ScoreDesk.FULL;
+    private static final int OK = 0, LONG = 1, BAD = -1, FULL = -2;
 
     private static String sentence = "";
     private static int tests = 0;
@@ -692,6 +692,28 @@ public final class BoundaryTests {
                 due("run " + n + " with a SIZE of " + size + ": ISSUE", x.time(0, 1), 7);
             }
         }
+        stackOfAnotherSize();
+    }
+
+    private static void stackOfAnotherSize() {
+        // Whatever was its SIZE, and however many were fetched, the next run has all its places.
+        for (int before = 1; before <= 4; before++) {
+            for (int size = 1; size <= 4; size++) {
+                for (int packs = 1; packs <= 5; packs++) {
+                    ScoreDesk x = new ScoreDesk();
+                    for (int n = 0; n < 2 * packs; n++) {
+                        x.add(ADD, n & 1, 7, 7);
+                    }
+                    x.fetch(before, 6);
+                    x.run();
+                    x.clear();
+                    addPath(x, 0, 1, 0, 2, 3, 4, 2, 5, 6, 7, 8, 5);
+                    x.fetch(size, 6);
+                    x.run();
+                    due(packs + " packs with " + before + ", then " + size + ": lost(1)", x.lost(1), 6 * (13 - size));
+                }
+            }
+        }
     }
 
     private static void firstFetchedGoes() {
@@ -853,6 +875,28 @@ public final class BoundaryTests {
             due("busy(0, 0)", x.busy(0, 0), 0);
             due("busy(0, 1)", x.busy(0, 1), 1);
         }
+        for (int r = 0; r < 8; r++) {
+            nothingLeftOfTheRunBefore(r);
+        }
+    }
+
+    /** Register r, its bank and its unit were used late in the run before. */
+    private static void nothingLeftOfTheRunBefore(int r) {
+        int other = r == 1 ? 2 : 1;
+        ScoreDesk x = unfetched(DIV, other, 5, 5, GO, 0, 0, 2, STORE, r, other, r, DIV, r, 5, 5, LOAD, 6, r, r);
+        x.set(5, 1);
+        x.bank(8);
+        x.run();
+        due("lost(0) of the run before", x.lost(0), 2);
+        x.clear();
+        x.add(LOAD, r, 3, r);
+        x.run();
+        dueTimes(x, 0, "0 1 2 6 6 0");
+        dueLost(x, "0 0 0 0 0 0 0");
+        x.clear();
+        x.add(DIV, 4, r, r);
+        x.run();
+        dueTimes(x, 0, "0 1 2 10 10 0");
     }
 
     private static void unitFromIssueToWrite() {
@@ -879,6 +923,13 @@ public final class BoundaryTests {
         dueTimes(x, 3, "3 4 5 7 7 2");
         dueTimes(x, 4, "4 7 8 10 10 1");
         dueTimes(x, 5, "5 8 9 11 11 2");
+        // Unit 0 is written in 4: it is not free for an ISSUE in 4, but for one in 5.
+        x = unfetched(ADD, 1, 7, 7, SET, 2, 1, 0, MUL, 3, 7, 7, ADD, 4, 7, 7);
+        x.run();
+        dueTimes(x, 3, "3 4 5 7 7 1");
+        x = unfetched(ADD, 1, 7, 7, SET, 2, 1, 0, MUL, 3, 7, 7, DIV, 4, 7, 7, ADD, 5, 7, 7);
+        x.run();
+        dueTimes(x, 4, "4 5 6 8 8 0");
         // All are free again when the GO is written.
         x = unfetched(ADD, 1, 7, 7, ADD, 2, 7, 7, GO, 0, 0, 3, ADD, 3, 7, 7);
         x.units(5, 1, 8);
@@ -1162,6 +1213,7 @@ public final class BoundaryTests {
     // ---- Promises 1 to 3
 
     private static void promisesOneToThree() {
+        test("OK = 0, LONG = 1, BAD = -1, FULL = -2", BoundaryTests::constants);
         test("1: No program; as said; nothing was run.", BoundaryTests::newObject);
         test("2: A further instruction: how many there are.", BoundaryTests::addCounts);
         test("2: BAD if op is outside", BoundaryTests::addOpOutside);
@@ -1169,6 +1221,13 @@ public final class BoundaryTests {
         test("2: BAD if b of ZERO or GO is outside", BoundaryTests::addTargetOutside);
         test("2: FULL", BoundaryTests::addFull);
         test("3: The program has no instructions then: how many it had.", BoundaryTests::clearAtEdges);
+    }
+
+    private static void constants() {
+        due("OK", ScoreDesk.OK, OK);
+        due("LONG", ScoreDesk.LONG, LONG);
+        due("BAD", ScoreDesk.BAD, BAD);
+        due("FULL", ScoreDesk.FULL, FULL);
     }
 
     private static void newObject() {
