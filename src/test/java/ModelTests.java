@@ -65,29 +65,32 @@ public final class ModelTests {
             for (int i = any(0, 6); i > 0 && !spent(); i--) {
                 changeMachine();
             }
-            if (any(0, 3) > 0 && !spent()) {
+            if (any(0, 3) > 0) {
+                clear();
+            }
+            switch (any(0, 7)) {
+                case 0: addEarlyWriters(); break;
+                case 1: addPath(); break;
+                case 2: addLoop(); break;
+                default: addAny(registersUsed);
+            }
+        }
+
+        void clear() {
+            if (!spent()) {
                 due("clear()", desk.clear(), model.program.size());
                 model.program.clear();
-            }
-            for (int i = any(1, 24); i > 0 && !spent(); i--) {
-                addInstruction(registersUsed);
             }
         }
 
         void changeMachine() {
             int v = any(0, 1) == 0 ? any(-40, 40) : any(Integer.MIN_VALUE / 2, Integer.MAX_VALUE / 2) * 2;
             switch (any(0, 5)) {
-                case 0: {
-                    int kind = any(0, 5), many = any(1, 3), latency = any(1, 8);
-                    desk.units(kind, many, latency);
-                    model.many[kind] = many;
-                    model.latency[kind] = latency;
+                case 0:
+                    units(any(0, 5), any(1, 3), any(1, 8));
                     break;
-                }
                 case 1:
-                    model.size = any(1, 4);
-                    model.fetchTime = any(0, 6);
-                    desk.fetch(model.size, model.fetchTime);
+                    fetch(any(1, 4), any(0, 6));
                     break;
                 case 2:
                     model.bankTime = any(1, 8);
@@ -117,22 +120,99 @@ public final class ModelTests {
             }
         }
 
-        void addInstruction(int registersUsed) {
-            int op = any(0, 29);
-            op = op == 29 ? 10 : op % 10;
-            int d = any(0, registersUsed - 1), a = any(0, registersUsed - 1), b = any(0, registersUsed - 1);
-            if (op == 0) {
-                a = any(-5, 5);
-            } else if (op == 6 || op == 7) {
-                b = any(-40, 40);
-            } else if (op == 8 || op == 9) {
-                b = any(0, 3) == 0 ? any(0, 23) : Math.min(23, model.program.size() + any(1, 4));
-                d = any(-3, 30);
+        void units(int kind, int many, int latency) {
+            due("units", desk.units(kind, many, latency) ? 1 : 0, 1);
+            model.many[kind] = many;
+            model.latency[kind] = latency;
+        }
+
+        void fetch(int size, int time) {
+            due("fetch", desk.fetch(size, time) ? 1 : 0, 1);
+            model.size = size;
+            model.fetchTime = time;
+        }
+
+        void add(int op, int d, int a, int b) {
+            if (spent()) {
+                return;
             }
             int want = model.program.size() == 24 ? ScoreDesk.FULL : model.program.size() + 1;
             due("add", desk.add(op, d, a, b), want);
             if (want != ScoreDesk.FULL) {
                 model.program.add(new int[] {op, d, a, b});
+            }
+        }
+
+        void addAny(int registersUsed) {
+            for (int i = any(1, 24); i > 0; i--) {
+                int op = any(0, 29);
+                op = op == 29 ? 10 : op % 10;
+                int d = any(0, registersUsed - 1), a = any(0, registersUsed - 1), b = any(0, registersUsed - 1);
+                if (op == 0) {
+                    a = any(-5, 5);
+                } else if (op == 6 || op == 7) {
+                    b = any(-40, 40);
+                } else if (op == 8 || op == 9) {
+                    b = any(0, 3) == 0 ? any(0, 23) : Math.min(23, model.program.size() + any(1, 4));
+                    d = any(-3, 30);
+                }
+                add(op, d, a, b);
+            }
+        }
+
+        /** With nothing that holds ISSUE back, WRITEs come to wait for READs before them, which else is rare. */
+        void addEarlyWriters() {
+            clear();
+            if (!spent()) {
+                fetch(4, 0);
+            }
+            for (int kind = 0; kind < 5 && !spent(); kind++) {
+                units(kind, 3, kind == 3 ? 8 : any(1, 3));
+            }
+            for (int i = any(6, 24); i > 0; i--) {
+                int op = any(0, 9);
+                op = op > 7 ? 0 : op;
+                add(op, any(0, 7), any(0, 7), any(0, 7));
+            }
+        }
+
+        /** GOs along all instructions in any order, so that THE STACK is asked for older PACKs too. */
+        void addPath() {
+            clear();
+            int length = 2 * any(3, 12);
+            int[] order = new int[length];
+            for (int i = 1; i < length; i++) {
+                int j = any(1, i);
+                order[i] = order[j];
+                order[j] = i;
+            }
+            int[] target = new int[length];
+            for (int i = 0; i < length; i++) {
+                target[order[i]] = order[(i + 1) % length];
+            }
+            for (int i = 0; i < length; i++) {
+                add(9, 0, 0, target[i]);
+            }
+        }
+
+        /** A loop and what comes after it: 59, 60 or 61 instructions, and a HALT or nothing at the end. */
+        void addLoop() {
+            clear();
+            int length = any(3, 8);
+            int times = 58 / length;
+            add(0, 6, 1, 0);
+            add(0, 7, times, 0);
+            for (int i = 3; i < length; i++) {
+                add(any(1, 7), any(0, 5), any(0, 7), any(0, 7));
+            }
+            add(2, 7, 7, 6);
+            add(8, 0, 7, 2 + length);
+            add(9, 0, 0, 2);
+            for (int i = 59 - times * length + any(-1, 1); i > 0; i--) {
+                add(0, any(0, 7), any(-5, 5), 0);
+            }
+            if (any(0, 1) == 0) {
+                add(10, 0, 0, 0);
             }
         }
 
